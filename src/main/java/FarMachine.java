@@ -25,7 +25,6 @@ public final class FarMachine {
   private static final int HOURS_OF_DAY = 24;
   private static final int COOLING = 2;
   private static final int SILENT_PLACE = 40;
-  private static final int WORDS_FELT_FROM = 8;
   private static final int MOST_FELT = 31;
   private static final int TURNS = 32;
   private static final int MIDDLE_TURN = 16;
@@ -1203,6 +1202,7 @@ public final class FarMachine {
   private static final class Rows {
     private static final int LONGS = 8;
     private static final int BYTES_OF_LONG = 8;
+    private static final int BITS_OF_BYTE = 8;
     private static final int SHIFT_OF_LENGTH = 56;
 
     private final long[] packed = new long[MOST_STATES * LONGS];
@@ -1225,7 +1225,7 @@ public final class FarMachine {
       if (hasRoom() && length >= 0 && length < MOST_TRIED) {
         long value = sentByte & 255;
         int at = count * LONGS + length / BYTES_OF_LONG;
-        packed[at] |= value << BYTES_OF_LONG * (length % BYTES_OF_LONG);
+        packed[at] |= value << BITS_OF_BYTE * (length % BYTES_OF_LONG);
         length++;
       }
     }

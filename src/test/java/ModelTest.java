@@ -8,7 +8,7 @@ import java.util.Set;
  * shares no code with FarMachine: maps of plain lists, copied whole, rules read anew each time.
  */
 public final class ModelTest {
-  private static final int RUNS = 600;
+  private static final int RUNS = 150;
   private static final int CALLS = 512;
 
   public static void main(String[] args) {
@@ -84,12 +84,29 @@ public final class ModelTest {
         }
       }
       same("set", real.set(9, 3), model.set(9, 3));
+      wake();
     }
 
     private int likelyWord() {
-      int[] acts = {0, 32, 64, 64, 96, 128, 160, 192, 224, 224, 224};
+      int[] acts = {0, 32, 64, 64, 96, 128, 160, 160, 192, 224, 224, 224, 224};
       int act = acts[below(acts.length)];
-      return act == 128 ? act + 14 + below(5) : act + below(32);
+      if (act == 0 && below(4) > 0) {
+        return 1 + below(4);
+      }
+      if (act == 96 && below(3) > 0) {
+        return act + 8 + below(8);
+      }
+      return act == 128 ? act + 14 + below(5) : act + below(below(2) == 0 ? 32 : 8);
+    }
+
+    /** The machine talks on; sometimes THE START is told there. */
+    private boolean wake() {
+      boolean good = box(0, 1, true) && box(1, 4, true);
+      int[][] told = {{0, below(12)}, {1, 1 + below(20)}, {2, 60}, {4, below(5) - 2}, {5, 0}, {6, 10}, {7, 99}};
+      for (int[] pair : told) {
+        good = good && same("set(" + pair[0] + ", " + pair[1] + ")", real.set(pair[0], pair[1]), model.set(pair[0], pair[1]));
+      }
+      return good && (below(2) == 0 || same("start()", real.start(), model.start()));
     }
 
     private boolean box(int box, int kind, boolean on) {
@@ -104,7 +121,7 @@ public final class ModelTest {
       int a = near(0, 60);
       int n = below(3) == 0 ? near(1, 60) : 1 + below(12);
       int m = below(3) == 0 ? near(1, 60) : 1 + below(12);
-      switch (below(46)) {
+      switch (below(50)) {
         case 0: return word(near(0, 47), below(5) == 0 ? near(0, 255) : likelyWord());
         case 1: a = near(0, 47); return same("wordOf(" + a + ")", real.wordOf(a), model.wordOf(a));
         case 2: return box(near(0, 7), near(0, 7), below(3) > 0);
@@ -124,9 +141,9 @@ public final class ModelTest {
           return same("fits(" + a + ", " + n + ")", real.fits(a, n), model.fits(a, n));
         case 25: case 26: a = near(0, 3);
           return same("fitting(" + n + ", " + a + ")", real.fitting(n, a), model.fitting(n, a));
-        case 27: return fed();
-        case 28: return same("rule()", real.rule(), model.rule());
-        case 29: return ruled();
+        case 27: return below(3) > 0 || fed();
+        case 28: return below(3) > 0 || same("rule()", real.rule(), model.rule());
+        case 29: return below(2) > 0 || ruled();
         case 30: a = near(0, 9); return same("holds(" + a + ")", real.holds(a), model.holds(a));
         case 31: case 32: a = near(0, (1 << model.w.suspects.size()) - 1);
           return same("broken(" + a + ", " + n + ")", real.broken(a, n), model.broken(a, n));
@@ -146,6 +163,9 @@ public final class ModelTest {
         case 42: a = near(-1, 10); return same("unlike(" + a + ")", real.unlike(a), model.unlike(a));
         case 43: return below(2) > 0 || same("image()", real.image(), model.image());
         case 44: return below(2) > 0 || same("on()", real.on(), model.on());
+        case 45: case 46: return below(2) > 0 || wake();
+        case 47: return word(below(12), likelyWord());
+        case 48: a = near(0, 30); return same("heard(" + a + ")", real.heard(a), model.heard(a));
         default: a = near(0, 17); return same("count(" + a + ")", real.count(a), model.count(a));
       }
     }
@@ -171,13 +191,13 @@ public final class ModelTest {
 
     private boolean asked() {
       int kind = near(0, 2);
-      int where = near(0, 47);
-      int v = kind == 1 ? near(0, 47) : near(0, 255);
+      int where = below(2) == 0 ? near(0, 47) : below(12);
+      int v = kind == 1 ? near(0, 47) : below(2) == 0 ? near(0, 255) : likelyWord();
       return same("ask(" + kind + ", " + where + ", " + v + ")", real.ask(kind, where, v), model.ask(kind, where, v));
     }
 
     private boolean suspected() {
-      int word = below(2) == 0 ? near(0, 47) : below(12);
+      int word = below(6) == 0 ? near(0, 47) : below(12);
       int bit = near(0, 7);
       return same("suspect(" + word + ", " + bit + ")", real.suspect(word, bit), model.suspect(word, bit));
     }

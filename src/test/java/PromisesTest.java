@@ -243,6 +243,9 @@ public final class PromisesTest {
     x.set(2, 99);
     x.box(1, LYING, true);
     due("felt(0) LYING of 99", x.felt(0), 104);
+    x.box(0, FEELING, true);
+    due("felt(0) FEELING is BOX 0", x.felt(0), 99);
+    x.box(0, FEELING, false);
     x.set(3, 33);
     x.set(4, -7);
     x.set(1, -100);
@@ -305,6 +308,11 @@ public final class PromisesTest {
 
     // JUMP above 0 alone; behind 47 comes 0
     x = new FarMachine();
+    x.word(46, SET + 1);
+    x.set(0, 46);
+    x.hours(1);
+    state(x, 0, 47);
+    x.set(1, 0);
     x.word(47, JUMP + 5);
     x.set(0, 47);
     x.hours(1);
@@ -900,6 +908,23 @@ public final class PromisesTest {
     x.put(5);
     due("fitting(2, 3) of 4 alone", x.fitting(2, 3), 4);
     due("fitting(2, 0)", x.fitting(2, 0), 1);
+    // of two that have one each the least: both make NUMBER 5
+    x = talker();
+    words(x, 0, SET + 4, ADD + 16, SEND + 5);
+    x.suspect(7, 7);
+    x.suspect(1, 0);
+    x.suspect(0, 0);
+    x.start();
+    x.put(5);
+    due("fitting(3, 0)", x.fitting(3, 0), 4);
+    due("fitting(3, 3)", x.fitting(3, 3), 2);
+    x = talker();
+    words(x, 0, SEND + 5);
+    x.suspect(0, 0);
+    x.suspect(7, 0);
+    x.start();
+    x.put(0);
+    due("fitting(1, 2): without the first", x.fitting(1, 2), 2);
   }
 
   private static void p18() {
@@ -979,6 +1004,8 @@ public final class PromisesTest {
     x.set(4, -12);
     x.box(2, TURNING, true);
     x.box(3, LYING, true);
+    // of a text with a FAULT nothing stays
+    due("a FAULT behind two TESTS", rule(x, "h=0&f=0&x"), -28);
     holding(x, "h=70&f=33&d=-12&a=-5&p=41", 1);
     holding(x, "t=0&w=7&o=2", 1);
     holding(x, "h<70", 0);
@@ -1280,6 +1307,14 @@ public final class PromisesTest {
     x.hole(0, 48);
     due("fewest(40)", x.fewest(40), 32);
     refused(x, 0, 0, 0, 1, 0, 1);
+    x = new FarMachine();
+    for (int i = 0; i < 8; i++) {
+      x.hole(6 * i, 3);
+    }
+    due("fewest(15)", x.fewest(15), 127);
+    due("fewest(16)", x.fewest(16), 255);
+    due("fewest(17)", x.fewest(17), 255);
+    due("fewest(18)", x.fewest(18), -9);
   }
 
   private static void p28() {
@@ -1425,6 +1460,12 @@ public final class PromisesTest {
     x.set(8, 2);
     x.set(9, 1);
     x.command(1, 0, 3);
+    x.word(3, SEND + 1);
+    x.box(0, TALKING, true);
+    x.set(0, 3);
+    x.set(4, 0);
+    x.hours(1);
+    due("sent()", x.sent(), 2);
     x.hours(40);
     x.put(3);
     x.feed(2, 1L);
@@ -1441,13 +1482,25 @@ public final class PromisesTest {
       due("count(6): THE ROW stays", x.count(6), 1);
       due("count(7): THE TAPE stays", x.count(7), 2);
       due("box(5)", x.box(5, BOX, false), 0);
-      due("count(11): REFUSALS stay", x.count(11), 1);
+      due("count(11): REFUSALS stay", x.count(11), 1 + round);
       due("count(13): REFUSALS stay", x.count(13), 1);
       x.hours(9);
       due("wordOf(30): under way", x.wordOf(30), 0);
       x.hours(1);
       due("wordOf(30): under way", x.wordOf(30), 99);
       due("heard(0)", x.heard(0), 0);
+      due("heard(1)", x.heard(1), 1001);
+      x.command(0, 29, 98);
+      x.set(9, 0);
+      x.word(3, SEND + 1);
+      x.set(0, 3);
+      x.set(5, 0);
+      x.hours(1);
+      due("heard(1): DELAY is 0", x.heard(1), 60);
+      x.hours(8);
+      due("wordOf(29): DELAY of then", x.wordOf(29), 0);
+      x.hours(1);
+      due("wordOf(29): DELAY of then", x.wordOf(29), 98);
       state(x, 4, 0);
       state(x, 8, 3);
       x.hours(30);
@@ -1478,7 +1531,10 @@ public final class PromisesTest {
     }
     x.word(8, 8);
     due("unlike(0): THE START of then", x.unlike(0), 8);
-    due("suspect, again", x.suspect(8, 1), 1);
+    due("suspect, again", x.suspect(9, 2), 1);
+    due("suspect of then", x.suspect(7, 1), -3);
+    due("suspect, twice", x.suspect(9, 2), -3);
+    due("suspect, again", x.suspect(8, 1), 2);
     due("a RULE, again", rule(x, "h>0"), 1);
     due("holds(1)", x.holds(1), 1);
     x.on();
