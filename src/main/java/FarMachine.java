@@ -194,7 +194,7 @@ public final class FarMachine {
     if (refusal != 0) {
       return refuse(refusal);
     }
-    underWay.add(kind, where, v, world.machine.hour + world.machine.delay);
+    underWay.add(kind, where, v, world.machine.delay);
     return underWay.count;
   }
 
@@ -572,12 +572,15 @@ public final class FarMachine {
     }
   }
 
-  /** COMMANDS in the order in which they were sent. */
+  /**
+   * COMMANDS in the order in which they were sent. Each has the HOURS that still go by ahead of the
+   * one in which it comes, not the number of that one: HOUR stays 2000, and yet HOURS go by.
+   */
   private static final class Commands {
     private final int[] kinds;
     private final int[] wheres;
     private final int[] values;
-    private final int[] hours;
+    private final int[] hoursLeft;
     int count;
 
     Commands(int most) {
@@ -585,7 +588,7 @@ public final class FarMachine {
       kinds = new int[room];
       wheres = new int[room];
       values = new int[room];
-      hours = new int[room];
+      hoursLeft = new int[room];
     }
 
     boolean isFull() {
@@ -596,18 +599,18 @@ public final class FarMachine {
       return i >= 0 && i < count && i < kinds.length;
     }
 
-    void add(int kind, int where, int v, int hour) {
+    void add(int kind, int where, int v, int left) {
       if (count >= 0 && count < kinds.length) {
         kinds[count] = kind;
         wheres[count] = where;
         values[count] = v;
-        hours[count] = hour;
+        hoursLeft[count] = left;
         count++;
       }
     }
 
-    boolean hasCome(int i, int hour) {
-      return has(i) && hours[i] <= hour;
+    boolean comesNow(int i) {
+      return has(i) && hoursLeft[i] <= 0;
     }
 
     void doTo(Machine machine, int i) {
@@ -618,22 +621,26 @@ public final class FarMachine {
       }
     }
 
-    /** Those that stay move up; none is written over before it was looked at. */
-    void dropCome(int hour) {
+    /**
+     * AN HOUR goes by: those that come in it are gone, the others move up (none is written over
+     * before it was looked at). Answers how many came.
+     */
+    int passHour() {
       int all = Math.min(count, kinds.length);
       count = 0;
       for (int i = 0; i < all; i++) {
-        if (hours[i] > hour) {
-          add(kinds[i], wheres[i], values[i], hours[i]);
+        if (hoursLeft[i] > 0) {
+          add(kinds[i], wheres[i], values[i], hoursLeft[i] - 1);
         }
       }
+      return all - count;
     }
 
     void copyFrom(Commands other) {
       copyRow(other.kinds, kinds);
       copyRow(other.wheres, wheres);
       copyRow(other.values, values);
-      copyRow(other.hours, hours);
+      copyRow(other.hoursLeft, hoursLeft);
       count = other.count;
     }
   }
@@ -760,18 +767,14 @@ public final class FarMachine {
       return sentByte;
     }
 
+    /** Does what comes in this HOUR; answers whether something did. */
     private boolean receive() {
-      boolean came = false;
       for (int i = 0; i < underWay.count; i++) {
-        if (underWay.hasCome(i, hour)) {
+        if (underWay.comesNow(i)) {
           underWay.doTo(this, i);
-          came = true;
         }
       }
-      if (came) {
-        underWay.dropCome(hour);
-      }
-      return came;
+      return underWay.passHour() > 0;
     }
 
     /** Does the WORD at PLACE; answers the byte that it SENDs, or NOTHING_SENT. */

@@ -84,6 +84,10 @@ public final class ModelTest {
         }
       }
       same("set", real.set(9, 3), model.set(9, 3));
+      if (seed % 5 == 0) {
+        int n = 1960 + below(40);
+        same("hours(" + n + ")", real.hours(n), model.hours(n));
+      }
       wake();
     }
 
@@ -274,8 +278,8 @@ public final class ModelTest {
     }
   }
 
-  /** A COMMAND and the HOUR in which it comes. */
-  private record Come(int kind, int where, int v, int hour) {
+  /** A COMMAND and how many HOURS must have gone by in all as it comes. */
+  private record Come(int kind, int where, int v, int gone) {
   }
 
   /** A byte and the HOUR as of which it is HEARD. */
@@ -292,6 +296,8 @@ public final class ModelTest {
     final int[] kinds = new int[8];
     final boolean[] on = new boolean[8];
     List<Come> way = new ArrayList<>();
+    /** HOURS that went by, also those that HOUR no more counts. */
+    int gone;
     int hour;
     int silent;
 
@@ -302,6 +308,7 @@ public final class ModelTest {
       System.arraycopy(kinds, 0, c.kinds, 0, 8);
       System.arraycopy(on, 0, c.on, 0, 8);
       c.way = new ArrayList<>(way);
+      c.gone = gone;
       c.hour = hour;
       c.silent = silent;
       return c;
@@ -373,7 +380,7 @@ public final class ModelTest {
       List<Integer> said = new ArrayList<>();
       List<Come> later = new ArrayList<>();
       for (Come c : way) {
-        if (c.hour == hour) {
+        if (c.gone == gone) {
           come(c);
         } else {
           later.add(c);
@@ -401,6 +408,7 @@ public final class ModelTest {
         told[0] = 40;
         told[5] = 0;
       }
+      gone++;
       if (hour < 2000) {
         hour++;
       }
@@ -627,7 +635,7 @@ public final class ModelTest {
       if (code != 0) {
         return no(code);
       }
-      w.far.way.add(new Come(kind, where, v, w.far.hour + w.far.told[9]));
+      w.far.way.add(new Come(kind, where, v, w.far.gone + w.far.told[9]));
       return w.far.way.size();
     }
 

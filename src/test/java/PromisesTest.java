@@ -68,7 +68,8 @@ public final class PromisesTest {
     p8acts(); p8waiting(); p8heat(); p8drift(); p8silence(); p8edges();
     p9(); p9order(); p10(); p11(); p12(); p13(); p14(); p15(); p16(); p17(); p18();
     p19(); p20(); p21(); p22(); p23(); p24(); p25(); p26(); p27(); p28(); p29(); p30();
-    p31(); p32(); p33(); p34(); atTheLastHour();
+    p31(); p32(); p33(); p34();
+    atTheLastHour(); commandsAtTheLastHour(); underWayAtTheLastHour();
     System.out.println(asked + " answers asked, " + wrong + " wrong");
     if (wrong != 0) {
       System.exit(1);
@@ -1582,7 +1583,7 @@ public final class PromisesTest {
     refused(x, 2, 1, 1, 1, 0, 1);
   }
 
-  /** HOUR is 2000 at most: HOURS go by, but what is due in a later one does not come. */
+  /** HOUR is 2000 at most: HOURS go by, but a byte that is HEARD as HOUR is more is not HEARD. */
   private static void atTheLastHour() {
     promise = "the last hour";
     FarMachine x = talker();
@@ -1604,10 +1605,81 @@ public final class PromisesTest {
     x.hours(30);
     due("sent()", x.sent(), 2);
     due("heard(1)", x.heard(1), 1001);
-    due("wordOf(30)", x.wordOf(30), 0);
+    due("wordOf(30)", x.wordOf(30), 1);
     due("wordOf(31)", x.wordOf(31), 1);
-    due("count(1)", x.count(1), 1);
+    due("count(1)", x.count(1), 0);
     state(x, 1, 2);
     state(x, 6, 2000);
+  }
+
+  /** COMMANDS come DELAY HOURS later, HOURS that go by at HOUR 2000 too. */
+  private static void commandsAtTheLastHour() {
+    promise = "9 command: the last hour";
+    FarMachine x = new FarMachine();
+    x.set(8, 999);
+    x.hours(1995);
+    // sent ahead of HOUR 2000, come behind it
+    due("command(0, 3, 33)", x.command(0, 3, 33), 1);
+    x.set(9, 5);
+    due("command(0, 4, 44)", x.command(0, 4, 44), 2);
+    x.hours(5);
+    due("wordOf(4)", x.wordOf(4), 0);
+    x.hours(1);
+    due("wordOf(4)", x.wordOf(4), 44);
+    due("count(1)", x.count(1), 1);
+    x.hours(3);
+    due("wordOf(3)", x.wordOf(3), 0);
+    x.hours(1);
+    due("wordOf(3)", x.wordOf(3), 33);
+    due("count(1)", x.count(1), 0);
+    state(x, 9, 0);
+    // each by its own DELAY, each HOUR one more or none
+    for (int delay = 20; delay >= 0; delay--) {
+      x.set(9, delay);
+      x.command(0, delay, 100 + delay);
+    }
+    for (int delay = 0; delay <= 20; delay++) {
+      due("count(1)", x.count(1), 21 - delay);
+      x.hours(1);
+      due("wordOf(" + delay + ")", x.wordOf(delay), 100 + delay);
+      due("wordOf(" + (delay + 1) + ")", x.wordOf(delay + 1), delay == 2 ? 33 : delay == 3 ? 44 : 0);
+      state(x, 9, 0);
+    }
+    x.hours(1);
+    state(x, 9, 1);
+    state(x, 6, 2000);
+  }
+
+  /** THE START, THE IMAGE and TRIED have what is under way at HOUR 2000 too. */
+  private static void underWayAtTheLastHour() {
+    promise = "9 command: under way at the last hour";
+    FarMachine x = talker();
+    x.set(8, 999);
+    x.hours(2000);
+    x.set(0, 0);
+    x.set(1, 7);
+    x.set(4, 0);
+    x.box(0, TALKING, true);
+    x.set(9, 3);
+    x.command(1, 0, 20);
+    x.word(20, SEND + 5);
+    x.hours(1);
+    x.start();
+    x.image();
+    x.put(7);
+    due("fits(0, 2)", x.fits(0, 2), 0);
+    due("fits(0, 3)", x.fits(0, 3), 1);
+    due("rule p=21", rule(x, "p=21"), 0);
+    due("broken(0, 2)", x.broken(0, 2), -9);
+    due("broken(0, 3)", x.broken(0, 3), 200);
+    x.hours(3);
+    due("count(1)", x.count(1), 0);
+    state(x, 0, 21);
+    due("on()", x.on(), 2000);
+    due("count(1)", x.count(1), 1);
+    x.hours(2);
+    state(x, 0, 0);
+    x.hours(1);
+    state(x, 0, 21);
   }
 }
