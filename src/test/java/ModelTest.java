@@ -9,7 +9,8 @@ import java.util.Set;
  */
 public final class ModelTest {
   private static final int RUNS = 150;
-  private static final int CALLS = 512;
+  /** Beyond 512 calls an object's answers are free, and one step makes up to 64 of them. */
+  private static final int CALLS = 512 - 64;
 
   public static void main(String[] args) {
     for (int seed = 1; seed <= RUNS; seed++) {
@@ -19,7 +20,7 @@ public final class ModelTest {
         System.exit(1);
       }
     }
-    System.out.println(RUNS + " runs of " + CALLS + " calls answer as the model does");
+    System.out.println(RUNS + " runs of " + CALLS + " calls and some more answer as the model does");
   }
 
   /** One run of calls by a row of numbers that is the same each time. */
